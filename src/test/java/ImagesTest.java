@@ -152,6 +152,11 @@ public final class ImagesTest {
         x.years(7);
         due("back again", x.back(), 6);
         due("as it was", Due.look(x).equals(kept) ? 1 : 0, 1);
+        x.person(5, 1, 9);
+        x.friends(6, 1, 1);
+        x.set(6, 3, 88);
+        due("back", x.back(), 6);
+        due("as it was", Due.look(x).equals(kept) ? 1 : 0, 1);
         x.person(0, 0, 1);
         due("a new one has no friends", x.told(6, 4), 0);
         due("a new one has an empty purse", x.told(6, 3), 0);

@@ -55,6 +55,7 @@ public final class OrderTest {
         }
         due("freedom of nobody", x.freedom(), 0);
         due("together of nobody", x.together(), NONE);
+        due("together of nobody, ahead of all else", new HalfFriends().together(), NONE);
         due("best of nobody", x.best(1, 1), NONE);
         x.person(0, 1, 0);
         due("one alone", x.ways(), 2);
@@ -102,7 +103,19 @@ public final class OrderTest {
         due("nobody is free", x.freedom(), 0);
         due("in order", x.town(4), 0);
         due("no other one", x.together(), NONE);
+        x.turns(0, 5);
+        x.turns(1, 0);
+        x.turns(2, 0);
+        x.turns(3, 0);
+        due("ways with 0 fixed for", x.ways(), 2);
+        due("freedom with 0 fixed for", x.freedom(), 10);
+        x.set(0, 1, 0);
         x.set(3, 1, 0);
+        due("ways with 0 fixed against", x.ways(), 2);
+        due("freedom with 0 fixed against", x.freedom(), 10);
+        for (int k = 0; k < 4; k++) {
+            x.turns(k, 5);
+        }
         due("no way", x.ways(), 0);
         for (int what = 0; what < 4; what++) {
             due("no minds", x.minds(what), NONE);
@@ -125,6 +138,12 @@ public final class OrderTest {
         due("FEWEST does not ask", x.minds(0), 3);
         x.turns(0, 2);
         due("0 is LEANING and asks 5", x.minds(1), 9);
+        x.set(0, 1, 1);
+        x.set(1, 1, 1);
+        x.set(2, 1, 1);
+        due("0 to be against asks 5, 2 asks 12", x.minds(1), 6);
+        x.set(0, 2, 99);
+        due("0 asks 49", x.minds(1), 3);
     }
 
     private static void least() {
@@ -148,6 +167,8 @@ public final class OrderTest {
     }
 
     private static void together() {
+        HalfFriends w = Due.ring(0, 0, 1, 1, 0);
+        due("two must change, ahead of all else", w.together(), 2);
         HalfFriends x = Due.ring(0, 1, 1, 0, 0, 1, 1, 0, 0);
         due("two rings of four each in one of eight", x.ways(), 4);
         due("four must change", x.together(), 4);
@@ -164,6 +185,9 @@ public final class OrderTest {
             x.person(0, 0, 0);
         }
         due("any friendship leaves none", x.best(1, 1), 0);
+        x.rule(0, 1);
+        due("with SLACK 1 one friendship leaves all", x.best(1, 1), 8);
+        x.rule(0, 0);
         due("the least two", x.best(1, 0), 1);
         x.friends(0, 1, 1);
         due("0 and 2", x.best(1, 0), 2);

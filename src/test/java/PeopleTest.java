@@ -244,6 +244,8 @@ public final class PeopleTest {
             due("friends of one that was drawn", x.told(one, 4), 0);
         }
         due("z", x.count(9), z);
+        due("one comes", new HalfFriends().deal(1), 1);
+        due("ten come", new HalfFriends().deal(10), 10);
         due("deal 0", x.deal(0), BAD);
         due("deal 11", x.deal(11), BAD);
         for (int wild : Due.WILD) {

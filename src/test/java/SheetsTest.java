@@ -61,6 +61,9 @@ public final class SheetsTest {
         x.sheet(0, 0, 1);
         x.sheet(0, 0, 2);
         due("all 0 again", at(x, 0, 1), 0);
+        x.mark(0, 0, 9);
+        x.sheet(0, 1, 2);
+        due("all 0 again", at(x, 0, 0), 0);
     }
 
     private static void markOfShorts() {

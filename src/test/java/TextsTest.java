@@ -5,6 +5,7 @@ public final class TextsTest {
     public static void main(String[] args) {
         theTape();
         theBytes();
+        trimmedAway();
         sound();
         faults();
         nested();
@@ -68,6 +69,23 @@ public final class TextsTest {
         due("a byte 225, a letter of another row", Due.text(x, "fine \u00e1"), -105);
     }
 
+    /** What was fed and trimmed away is no part of THE TAPE. */
+    private static void trimmedAway() {
+        Object[][] rows = {{"dues 1+1", 7}, {"dues (1)", 7}, {"dues 1+1", 5}, {"dues 1", 4}, {"dues !1", 6}, {"dues 1", 0}};
+        for (Object[] row : rows) {
+            HalfFriends x = new HalfFriends();
+            Due.tape(x, (String) row[0]);
+            x.trim((Integer) row[1]);
+            due(row[0] + " trimmed to " + row[1], x.text(), -100 - (Integer) row[1]);
+        }
+        HalfFriends x = new HalfFriends();
+        x.person(0, 1, 0);
+        Due.tape(x, "fine 1234");
+        x.trim(7);
+        due("trimmed to 12", x.text(), 0);
+        due("fine", x.fine(0), 12);
+    }
+
     private static void sound() {
         String[] texts = {"dues o", "dues(o)", "dues!o", "dues  o ", "  dues 1", "dues 0000", "dues 9999", "dues (1<2)=3",
             "dues 1<2&3>4|5=6", "dues ! ! 1", "dues !(1|2)", "dues (1)+(1)+(1)+(1)+(1)+(1)+(1)+(1)+(1)+(1)",
@@ -104,7 +122,8 @@ public final class TextsTest {
             {"dues 1==2", 7}, {"dues fee", 5}, {"dues 1 dues 1", 7}, {"1", 0}, {"o", 0}, {"(dues 1)", 0}, {"fee", 3},
             {"fine", 4}, {"fin e", 0}, {"dues 1,2", 6}, {"dues 1%2", 6}, {"dues 12 345", 8}, {"dues 1+12345+", 7},
             {"dues (o+1", 9}, {"dues )", 5}, {"dues 1)", 6}, {"dues {1}", 5}, {"dues `", 5}, {"dues 1/", 7},
-            {"dues 1:", 6}, {"dues O", 5}};
+            {"dues 1:", 6}, {"dues O", 5}, {"dues oa", 5}, {"dues oz", 5}, {"dues ao", 5}, {"dues zo", 5},
+            {"xues 1", 0}, {"xee 1", 0}, {"xine 1", 0}, {"fene 1", 0}, {"duesa", 0}, {"duesz 1", 0}, {"dues 1`", 6}};
         for (Object[] row : rows) {
             HalfFriends x = new HalfFriends();
             due("a FAULT in <" + row[0] + ">", Due.text(x, (String) row[0]), -100 - (Integer) row[1]);

@@ -100,6 +100,26 @@ public final class YearsTest {
         due("0 has OFF 3", x.told(0, 5), 3);
         due("0 changes", x.years(1), 1);
         due("it is 0", x.town(3), 62);
+        HalfFriends w = new HalfFriends();
+        for (int k = 0; k < 6; k++) {
+            w.person(0, 1, 0);
+        }
+        for (int k = 0; k < 6; k++) {
+            if (k != 2) {
+                w.friends(2, k, 1);
+            }
+        }
+        w.friends(0, 1, 1);
+        w.rule(1, 1);
+        due("2 has OFF 5: it changes for 0 and 1, who have OFF 2", w.years(1), 1);
+        due("it is 2", w.town(3), 59);
+        w.set(2, 1, 1);
+        w.set(1, 1, 0);
+        due("2 has OFF 3: 0 has OFF 0 and would have 2, 1 has OFF 2", w.years(1), 0);
+        w.friends(0, 3, 1);
+        w.friends(0, 4, 1);
+        due("2 has OFF 3 still", w.told(2, 5), 3);
+        due("0 has OFF 2 and would have 0, 1 likewise, 3 and 4 likewise", w.years(1), 1);
         HalfFriends y = new HalfFriends();
         y.person(0, 1, 0);
         y.rule(1, 1);
