@@ -12,6 +12,7 @@ public final class OrderTest {
         together();
         made();
         broken();
+        ten();
         wrongArguments();
         Due.end();
     }
@@ -54,6 +55,7 @@ public final class OrderTest {
             due("minds of nobody", x.minds(what), 0);
         }
         due("freedom of nobody", x.freedom(), 0);
+        due("freedom, ahead of all else", Due.ring(0, 0, 0, 1, 1).freedom(), 15);
         due("together of nobody", x.together(), NONE);
         due("together of nobody, ahead of all else", new HalfFriends().together(), NONE);
         due("best of nobody", x.best(1, 1), NONE);
@@ -223,6 +225,28 @@ public final class OrderTest {
         }
         due("no friends", x.best(0, 0), NONE);
         due("no friends", x.best(0, 1), NONE);
+    }
+
+    /** In a ring of ten those of even numbers, and those of odd ones, are a ring of five in which each differs: none. */
+    private static void ten() {
+        HalfFriends x = Due.ring(3, 1, 1, 0, 0, 1, 1, 0, 0, 1, 1);
+        due("no ways", x.ways(), 0);
+        due("no minds", x.minds(1), NONE);
+        due("nobody is free", x.freedom(), 0);
+        x.friends(9, 0, 0);
+        due("a row of ten: its ends have one friend", x.ways(), 0);
+        x.rule(0, 1);
+        due("a row of ten with SLACK 1", x.ways(), 4);
+        due("CHEAPEST", x.minds(1), 819);
+        due("all are free", x.freedom(), 1023);
+        due("five must change", x.together(), 5);
+        due("BROKEN anywhere but at the ends there are two rows with 4 ways each", x.best(0, 1), 16);
+        due("BROKEN between 1 and 2", x.best(0, 0), 102);
+        x.turns(9, 5);
+        due("9 is fixed", x.freedom(), 341);
+        x.rule(0, 9);
+        due("all but 9 are free", x.freedom(), 511);
+        due("ways", x.ways(), 512);
     }
 
     private static void wrongArguments() {

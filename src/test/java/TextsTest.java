@@ -103,6 +103,10 @@ public final class TextsTest {
         }
         HalfFriends x = new HalfFriends();
         due("a sum that comes too soon to its end", Due.text(x, s.substring(0, 95)), -195);
+        due("96 bytes that come too soon to their end", Due.text(x, s.substring(0, 95).replace("dues 1", "dues 12") + ""), -196);
+        due("96 bytes of which the last is (", Due.text(x, s.substring(0, 95) + "("), -196);
+        due("96 bytes of which the last is !", Due.text(x, s.substring(0, 95) + "!"), -196);
+        due("96 bytes and an open (", Due.text(x, s.substring(0, 94).replace("dues 1", "dues (1") + "2"), -196);
         due("96 bytes", Due.text(x, s.toString()), 0);
         due("its NUMBERS", x.textTold(0, 1), 46);
         x.person(0, 1, 1);

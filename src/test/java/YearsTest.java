@@ -19,6 +19,7 @@ public final class YearsTest {
         lied();
         liedOfPlaces();
         feeAndFine();
+        ten();
         Due.end();
     }
 
@@ -440,6 +441,23 @@ public final class YearsTest {
         due("a large number", x.lied(3, 1), 99999 + 2 + 2 + 1 + 1 - 2);
         x.mark(3, 9, 77);
         due("places beyond all PEOPLE are 0", x.lied(3, 1), 99999 + 2 + 2 + 1 + 1 - 2);
+    }
+
+    private static void ten() {
+        HalfFriends x = Due.ring(0, 1, 1, 1, 1, 1, 1, 1, 1, 1, 1);
+        x.rule(1, 1);
+        due("with 3 otherwise 0 changes, and four have OFF 0", x.won(1, 1), 12);
+        due("3 is won: beside 0, 1, 2 nobody changes for the better", x.won(1, 0), 3);
+        due("0 changes", x.years(1), 1);
+        due("it is 0", x.town(3), 1022);
+        due("all pay 6, and 0 what it asks", x.town(1), 70);
+        due("9 has OFF 0", x.told(9, 5), 0);
+        x.sheet(0, 0, 24);
+        due("lied", x.lied(0, 1), 12);
+        due("with 1 otherwise 0 and 2 have OFF 0, too", x.lied(0, 0), 1);
+        x.rule(1, 2);
+        x.rule(2, 100);
+        due("SETTLES never: a ring of ten has no order", x.settles(), NONE);
     }
 
     private static void feeAndFine() {
