@@ -319,13 +319,13 @@ public final class HalfFriends {
         return what == 0 ? who : least;
     }
 
-    // The document: "places beyond all PEOPLE: 0", so what stands there makes no difference.
+    // The document: "places beyond all PEOPLE: 0", so a number there is held against 0 in place of OFF.
     private int differences(Row row, int minds) {
         int sum = 0;
-        int shared = Math.min(row.size, now.size);
-        for (int k = 0; k < shared; k++) {
+        for (int k = 0; k < row.size; k++) {
             if (row.isNumber(k)) {
-                sum += Math.abs(now.off(k, minds) - row.places[k]);
+                int off = isNobody(k) ? 0 : now.off(k, minds);
+                sum += Math.abs(off - row.places[k]);
             }
         }
         return sum;

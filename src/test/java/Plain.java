@@ -699,8 +699,8 @@ final class Plain {
             c.people.get(k).pro = !c.people.get(k).pro;
             int sum = 0;
             for (int p = 0; p < sheets[sheet].length; p++) {
-                boolean counts = sheets[sheet][p] != null && p < s.people.size();
-                sum += counts ? Math.abs(c.off(c.people.get(p)) - sheets[sheet][p]) : 0;
+                int off = p < s.people.size() ? c.off(c.people.get(p)) : 0;
+                sum += sheets[sheet][p] == null ? 0 : Math.abs(off - sheets[sheet][p]);
             }
             if (best[0] == NONE || sum < best[1]) {
                 best[0] = k;

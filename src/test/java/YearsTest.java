@@ -18,6 +18,7 @@ public final class YearsTest {
         won();
         lied();
         liedOfPlaces();
+        liedBeyondPeople();
         feeAndFine();
         ten();
         Due.end();
@@ -439,8 +440,42 @@ public final class YearsTest {
         x.sheet(3, 1, 24);
         x.mark(3, 0, -99999);
         due("a large number", x.lied(3, 1), 99999 + 2 + 2 + 1 + 1 - 2);
-        x.mark(3, 9, 77);
-        due("places beyond all PEOPLE are 0", x.lied(3, 1), 99999 + 2 + 2 + 1 + 1 - 2);
+    }
+
+    /** Of a place beyond all PEOPLE a number is held against 0, whosever MIND is otherwise. */
+    private static void liedBeyondPeople() {
+        HalfFriends x = row();
+        int[] told = {0, 2, 0, 1, 1, 0, 7, -4, 0, 77};
+        x.sheet(0, 0, 10);
+        x.sheet(1, 1, 10);
+        for (int k = 0; k < 10; k++) {
+            x.mark(0, k, told[k]);
+            x.mark(1, k, told[k]);
+        }
+        for (int sheet = 0; sheet < 2; sheet++) {
+            due("0 lied: OFF 2 0 0 1 1; 1: 0 2 2 1 1", x.lied(sheet, 0), 1);
+            due("2, and 7, 4, 77 beyond all PEOPLE", x.lied(sheet, 1), 2 + 7 + 4 + 77);
+        }
+        x.mark(1, 6, NONE);
+        due("NO NUMBER beyond all PEOPLE is left out", x.lied(1, 1), 2 + 4 + 77);
+        x.person(0, 0, 0);
+        x.person(0, 0, 0);
+        x.friends(5, 6, 1);
+        due("5 and 6 are somebody now: OFF 1 against 0 and 7", x.lied(0, 1), 2 + 1 + 6 + 4 + 77);
+        x.sheet(2, 1, 24);
+        for (int k = 0; k < 24; k++) {
+            x.mark(2, k, k < 7 ? NONE : 99999);
+        }
+        due("all places beyond all PEOPLE", x.lied(2, 1), 17 * 99999);
+        due("of several the least", x.lied(2, 0), 0);
+        due("nobody lied of nobody", beyondNobody(), NONE);
+    }
+
+    private static int beyondNobody() {
+        HalfFriends x = new HalfFriends();
+        x.sheet(0, 0, 3);
+        x.mark(0, 1, 5);
+        return x.lied(0, 1);
     }
 
     private static void ten() {
