@@ -4,10 +4,7 @@ import java.util.Random;
 
 /** Runs of 512 calls by lot on HalfFriends and on Plain: all answers are the same. */
 public final class ModelTest {
-    private static final String[] CALLS = {"person", "told", "as", "turns", "set", "friends", "rule", "deal", "seed",
-        "town", "ways", "minds", "freedom", "together", "best", "years", "behind", "settles", "won", "lied", "fee", "fine",
-        "feed", "trim", "text", "textTold", "why", "sheet", "mark", "pour", "reads", "copy", "lay", "ask", "item", "rest",
-        "tell", "check", "keep", "back", "count"};
+    private static final String[] CALLS = Script.CALLS;
     private static final int FULL_RUN = 512;
 
     private final Random lot;
@@ -71,7 +68,7 @@ public final class ModelTest {
     private void both(int call, int[] a) {
         calls++;
         int want = onPlain(call, a);
-        int got = onHalfFriends(call, a);
+        int got = Script.on(x, CALLS[call], a);
         Due.due("run " + run + " call " + calls + " " + CALLS[call] + " " + java.util.Arrays.toString(a), got, want);
     }
 
@@ -229,52 +226,6 @@ public final class ModelTest {
     }
 
     // ---- calls by their numbers
-
-    private int onHalfFriends(int call, int[] a) {
-        switch (CALLS[call]) {
-            case "person": return x.person(a[0], a[1], a[2]);
-            case "told": return x.told(a[0], a[1]);
-            case "as": return x.as(a[0], a[1]);
-            case "turns": return x.turns(a[0], a[1]);
-            case "set": return x.set(a[0], a[1], a[2]);
-            case "friends": return x.friends(a[0], a[1], a[2]);
-            case "rule": return x.rule(a[0], a[1]);
-            case "deal": return x.deal(a[0]);
-            case "seed": return x.seed(a[0]);
-            case "town": return x.town(a[0]);
-            case "ways": return x.ways();
-            case "minds": return x.minds(a[0]);
-            case "freedom": return x.freedom();
-            case "together": return x.together();
-            case "best": return x.best(a[0], a[1]);
-            case "years": return x.years(a[0]);
-            case "behind": return x.behind(a[0], a[1]);
-            case "settles": return x.settles();
-            case "won": return x.won(a[0], a[1]);
-            case "lied": return x.lied(a[0], a[1]);
-            case "fee": return x.fee();
-            case "fine": return x.fine(a[0]);
-            case "feed": return x.feed(a[0], a[1], a[2]);
-            case "trim": return x.trim(a[0]);
-            case "text": return x.text();
-            case "textTold": return x.textTold(a[0], a[1]);
-            case "why": return x.why(a[0]);
-            case "sheet": return x.sheet(a[0], a[1], a[2]);
-            case "mark": return x.mark(a[0], a[1], a[2]);
-            case "pour": return x.pour(a[0]);
-            case "reads": return x.reads(a[0]);
-            case "copy": return x.copy(a[0], a[1], a[2], a[3], a[4]);
-            case "lay": return x.lay(a[0], a[1], a[2]);
-            case "ask": return x.ask(a[0], a[1]);
-            case "item": return x.item(a[0], a[1]);
-            case "rest": return x.rest(a[0], a[1]);
-            case "tell": return x.tell(a[0]);
-            case "check": return x.check(a[0]);
-            case "keep": return x.keep();
-            case "back": return x.back();
-            default: return x.count(a[0]);
-        }
-    }
 
     private int onPlain(int call, int[] a) {
         switch (CALLS[call]) {
