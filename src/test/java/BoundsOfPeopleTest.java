@@ -187,6 +187,8 @@ public final class BoundsOfPeopleTest {
     private static void turnsToTheSame() {
         ten(0, 1, 50).then("turns 9 5", 0).then("turns 9 5", 5).then("told 9 0", 5).then("turns 9 0", 5).then("turns 9 0", 0)
             .then("turns 0 5", 0).then("told 0 8", 2).then("told 1 0", 0).then("told 9 0", 0).then("count 5", 10);
+        Script.of("person 2 1 98", "person 0 0 0", "friends 0 1 1", "set 0 3 -77").then("turns 0 3", 2).then("told 0 1", 1)
+            .then("told 0 2", 98).then("told 0 3", -77).then("told 0 4", 2).then("told 0 7", 206).then("told 1 4", 1);
     }
 
     /** "MIND 1 or 0, PRICE 0 .. 99, PURSE -9999 .. 9999". */

@@ -30,6 +30,7 @@ public final class BoundsOfYearsTest {
         wonAtTheEnds();
         wonOfSeveral();
         liedAtTheEnds();
+        liedByAFixedOne();
         liedBeyond();
         feeAndFine();
         Due.end();
@@ -124,6 +125,7 @@ public final class BoundsOfYearsTest {
     private static void togetherFromOneToTen() {
         new Script().then("together", NONE);
         Script.of("person 0 0 0").then("together", 1).go("turns 0 5").then("together", NONE);
+        Script.of("person 0 1 0").then("together", 1).go("turns 0 5").then("together", NONE);
         ring(0, "1100").then("together", 2).go("set 1 1 0").then("together", NO).go("rule 0 2").then("together", 1);
         int[] circles = {418, 429, 498, 914, 908, 199, 804, 831, 223, 216};
         Script s = friendships(ten(0, 0, 0), circles).go("rule 0 1").then("ways", 2).then("together", NO);
@@ -298,6 +300,8 @@ public final class BoundsOfYearsTest {
         s.go("rule 2 0", "rule 1 1", "set 0 1 0").then("won 1 0", 1).then("won 60 1", 0).go("set 0 1 1").then("won 60 0", 0)
             .then("won 60 1", 4).then("behind 1 3", 14).then("behind 100 1", 9999 * 24 + 24 + 10 + 99 * 12);
         s.then("keep", 4).then("check 30", 0).go("tell 14").then("check 30", 1);
+        Script t = atYear(ring(0, "1111111111"), 9999).go("rule 1 1");
+        t.then("won 1 0", 3).then("won 1 1", 12).then("won 60 0", 3).then("won 60 1", 12).then("years 9", 0).then("town 3", 1023);
     }
 
     /** "BEHIND n (0 .. 100) YEARS": behind none all is as it is now; behind 100 as it comes. */
@@ -396,6 +400,13 @@ public final class BoundsOfYearsTest {
         s.go("mark 3 0 NONE", "mark 3 1 NONE", "mark 3 2 NONE").then("lied 3 1", 0).go("mark 3 2 1").then("lied 3 1", 0);
         s.go("mark 3 1 99999").then("lied 3 0", 1).then("lied 3 1", 99997).go("mark 3 1 -99999").then("lied 3 0", 0)
             .then("lied 3 1", 99999);
+    }
+
+    /** The one whose MIND is otherwise may be FIXED; MINDS are taken as they are now. */
+    private static void liedByAFixedOne() {
+        Script s = ring(0, "1111").go("turns 0 5", "keep", "sheet 0 0 4", "mark 0 0 2", "mark 0 2 2");
+        s.then("lied 0 0", 0).then("lied 0 1", 0).then("town 4", 15).go("set 1 1 0", "sheet 0 0 4").then("town 4", 10);
+        s.then("lied 0 0", 0).then("lied 0 1", 0).go("mark 0 1 2", "mark 0 3 2").then("lied 0 1", 4).then("lied 0 0", 0);
     }
 
     /** "Places beyond all PEOPLE: 0": ten PEOPLE, and 14 places more; NO NUMBER counts nowhere. */
