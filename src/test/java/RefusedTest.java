@@ -9,7 +9,7 @@ import java.util.List;
 public final class RefusedTest {
     private static final int BAD = Due.BAD, NO = Due.NO, FULL = Due.FULL, NONE = Due.NONE;
     private static final int NOTHING = Due.NOTHING, KIND = Due.KIND, INDEX = Due.INDEX, SIZE = Due.SIZE;
-    private static final String NEW = "NEW", RICH = "RICH", FILLED = "FILLED";
+    private static final String NEW = "NEW", RICH = "RICH", UNKEPT = "UNKEPT", FILLED = "FILLED";
 
     public static void main(String[] args) {
         theStates();
@@ -34,15 +34,22 @@ public final class RefusedTest {
 
     /** Nothing is empty here: 5 PEOPLE, 4 TEXTS, 12 bytes, 4 numbers, AN IMAGE; SHEET 3 is MISSING, SLOT 0 empty. */
     private static Script rich() {
+        return rich(true);
+    }
+
+    private static Script rich(boolean withAnImage) {
         Script s = Script.of("seed 5", "person 0 1 31", "person 3 0 12", "person 4 1 99", "person 5 0 7", "friends 0 1 1",
             "friends 1 2 1", "friends 2 3 1", "friends 0 2 1", "rule 0 1", "rule 1 2", "rule 2 40", "set 0 3 -50",
-            "law dues o*4+f-m", "law fee c+y*2", "law fine p-o", "years 3", "keep");
-        for (int n = 1; n <= 2; n++) {
-            s.go("tell " + s.call("behind " + n + " 3"), "tell " + s.call("behind " + n + " 1"));
+            "law dues o*4+f-m", "law fee c+y*2", "law fine p-o", "years 3");
+        if (withAnImage) {
+            tellYears(s.go("keep"), 2);
         }
         s.go("person 1 1 50", "friends 4 0 1", "set 2 1 1", "rule 0 2", "law dues 9+f", "years 2", "seed 99", "sheet 0 0 6",
             "sheet 1 1 5", "sheet 2 0 0", "mark 0 0 1", "mark 0 1 -3", "mark 0 5 700", "mark 1 0 2", "mark 1 2 NONE",
             "mark 1 4 -99999", "lay 1 1 1", "lay 2 2 0", "lay 3 3 77", "lay 4 2 1", "mark 0 0 2", "turns 1 2");
+        if (!withAnImage) {
+            tellYears(s, 2);
+        }
         return s.go("tape fee 7*c+y   ");
     }
 
@@ -52,10 +59,7 @@ public final class RefusedTest {
         for (int k = 0; k < 10; k++) {
             s.go("friends " + k + " " + (k + 1) % 10 + " 1");
         }
-        s.go("friends 0 4 1", "friends 2 9 1", "keep");
-        for (int n = 1; n <= 30; n++) {
-            s.go("tell " + s.call("behind " + n + " 3"), "tell " + s.call("behind " + n + " 1"));
-        }
+        tellYears(s.go("friends 0 4 1", "friends 2 9 1", "keep"), 30);
         for (int k = 0; k < 14; k++) {
             s.go("law " + (k % 2 == 0 ? "fine " : "dues ") + k);
         }
@@ -68,38 +72,60 @@ public final class RefusedTest {
         return s.go("tape fee 12" + "+2".repeat(45));
     }
 
+    private static void tellYears(Script s, int years) {
+        for (int n = 1; n <= years; n++) {
+            s.go("tell " + s.call("behind " + n + " 3"), "tell " + s.call("behind " + n + " 1"));
+        }
+    }
+
     private static Script made(String state) {
-        return state.equals(NEW) ? new Script() : state.equals(RICH) ? rich() : filled();
+        switch (state) {
+            case NEW: return new Script();
+            case UNKEPT: return rich(false);
+            case RICH: return rich();
+            default: return filled();
+        }
     }
 
     // ---- what later calls show
 
+    /**
+     * What is used up by being shown, then what is told at any time, THE IMAGE, and at last what is refused: for if a
+     * refused call changed something, it would change it here, too, on both objects.
+     */
     private static List<Integer> shown(Script s, String state) {
         List<Integer> row = new ArrayList<>();
-        boolean filled = state.equals(FILLED);
         ask(s, row, "count ", 10);
+        if (state.equals(UNKEPT)) {
+            row.add(s.call("keep"));
+        }
+        if (!state.equals(NEW)) {
+            row.add(s.call("check " + (state.equals(FILLED) ? 30 : 2)));
+            row.add(s.call("text"));
+        }
+        now(s, row, state.equals(FILLED) ? 5 : 9);
+        slotsAndSheets(s, row, state);
+        if (!state.equals(NEW)) {
+            theImage(s, row, state.equals(FILLED));
+        }
+        whatIsRefused(s, row);
+        return row;
+    }
+
+    private static void now(Script s, List<Integer> row, int whats) {
         ask(s, row, "town ", 6);
         int size = s.call("count 0");
-        people(s, row, size, filled ? 5 : 9);
+        people(s, row, size, whats);
         ask(s, row, "why ", 3);
         ask(s, row, "fine ", size);
         for (int k = s.call("count 6") - 1; k >= 0; k--) {
             row.add(s.call("textTold " + k + " 1"));
         }
-        for (String line : new String[] {"fee", "ways", "freedom", "together", "settles", "won 2 1", "best 0 0", "best 1 1"}) {
+        for (String line : new String[] {"fee", "ways", "freedom", "best 0 0", "best 1 1"}) {
             row.add(s.call(line));
         }
         ask(s, row, "minds ", 4);
         ask(s, row, "behind 3 ", 4);
-        slots(s, row);
-        for (int k = 0; k < (filled ? 2 : 4); k++) {
-            row.add(s.call("reads " + k));
-            row.add(s.call("lied " + k + " 1"));
-            row.add(s.call("lay 4 2 " + k));
-            places(s, row, 4);
-        }
-        last(s, row, filled);
-        return row;
     }
 
     private static void ask(Script s, List<Integer> row, String call, int many) {
@@ -114,36 +140,50 @@ public final class RefusedTest {
         }
     }
 
-    private static void slots(Script s, List<Integer> row) {
-        for (int k = 0; k < 5; k++) {
-            row.add(s.call("ask " + k + " 0"));
-            row.add(s.call("rest " + k + " 1000"));
-            places(s, row, k);
+    private static void slotsAndSheets(Script s, List<Integer> row, String state) {
+        if (state.equals(FILLED)) {
+            ask(s, row, "item 0 ", 24);
+            ask(s, row, "item 1 ", 24);
+            for (int k = 2; k < 5; k++) {
+                row.add(s.call("rest " + k + " 1000"));
+            }
+            sheet(s, row, 0, 24);
+            sheet(s, row, 1, 24);
+        } else if (!state.equals(NEW)) {
+            row.add(s.call("ask 1 1"));
+            ask(s, row, "item 2 ", 6);
+            row.add(s.call("rest 3 1000"));
+            ask(s, row, "item 4 ", 5);
+            sheet(s, row, 0, 6);
+            sheet(s, row, 1, 5);
+            sheet(s, row, 2, 0);
         }
     }
 
-    private static void places(Script s, List<Integer> row, int slot) {
-        int place = 0;
-        int v;
-        do {
-            v = s.call("item " + slot + " " + place);
-            row.add(v);
-            place++;
-        } while (v != NOTHING && v != INDEX && (v != KIND || place > 1));
+    private static void sheet(Script s, List<Integer> row, int sheet, int size) {
+        row.add(s.call("reads " + sheet));
+        row.add(s.call("lied " + sheet + " 1"));
+        row.add(s.call("lay 0 2 " + sheet));
+        ask(s, row, "item 0 ", size);
     }
 
-    /** What is used up by being shown: numbers that wait, THE TAPE; and THE IMAGE. */
-    private static void last(Script s, List<Integer> row, boolean filled) {
-        row.add(s.call("check " + (filled ? 30 : 2)));
-        row.add(s.call("text"));
-        row.add(s.call("fee"));
+    private static void theImage(Script s, List<Integer> row, boolean filled) {
         row.add(s.call("back"));
-        ask(s, row, "town ", 6);
+        ask(s, row, "town ", 4);
         row.add(s.call("behind 2 1"));
         row.add(s.call("count 9"));
         row.add(s.call("count 6"));
-        if (!filled) {
-            people(s, row, s.call("count 0"), 4);
+        int size = s.call("count 0");
+        for (int one = 0; one < size; one++) {
+            row.add(s.call("told " + one + " 3"));
+            row.add(filled ? 0 : s.call("told " + one + " 4"));
+        }
+    }
+
+    private static void whatIsRefused(Script s, List<Integer> row) {
+        for (String line : new String[] {"together", "settles", "won 2 1", "reads 3", "lied 3 0", "ask 0 0", "rest 0 5", "item 0 24",
+            "item 3 0", "text", "check 1", "back"}) {
+            row.add(s.call(line));
         }
     }
 
@@ -152,9 +192,10 @@ public final class RefusedTest {
         rich().then("count 0", 5).then("count 6", 4).then("count 7", 4).then("count 8", 12).then("check 2", 0)
             .then("text", 4).then("textTold 4 0", 1).then("together", NO).then("reads 3", NOTHING).then("rest 0 1", NOTHING)
             .then("back", 4).then("count 6", 3);
+        rich(false).then("back", NO).then("count 7", 4).then("keep", 5).then("check 2", 0).then("text", 4);
         filled().then("count 0", 10).then("count 6", 14).then("count 7", 60).then("count 8", 96).then("check 30", 0)
-            .then("text", FULL);
-        for (String state : new String[] {NEW, RICH, FILLED}) {
+            .then("text", FULL).then("settles", NONE);
+        for (String state : new String[] {NEW, RICH, UNKEPT, FILLED}) {
             due(state + " made twice is the same", same(made(state), made(state), state), 1);
         }
     }
@@ -389,6 +430,7 @@ public final class RefusedTest {
         refused(FILLED, "tell 0", FULL);
         refused(FILLED, "tell HIGH", FULL);
         refused(NEW, "back", NO);
+        refused(UNKEPT, "back", NO);
         refused(NEW, "check 1", NO);
         sides(NEW, "check %", 0, 31, BAD);
         sides(RICH, "count %", -1, 10, BAD);
@@ -404,10 +446,13 @@ public final class RefusedTest {
                 due(state + ": behind check " + n + " all else is as it was", same(made(state).go("check 1"), s, state), 1);
             }
         }
-        Script s = Script.of("tell 1", "tell 2").then("check 1", NO).then("count 7", 0);
-        due("behind check without AN IMAGE all is as it was", same(new Script(), s, NEW), 1);
-        s = Script.of("tell 1", "tell 2").then("check 0", BAD).then("count 7", 0);
-        due("behind check 0 without AN IMAGE all is as it was", same(new Script(), s, NEW), 1);
+        for (String n : new String[] {"1", "2", "30", "0", "31"}) {
+            Script s = rich(false).then("check " + n, n.equals("0") || n.equals("31") ? BAD : NO).then("count 7", 0);
+            Script other = rich(false).then("keep", 5).then("check 2", 0);
+            due("behind check " + n + " without AN IMAGE all else is as it was", same(other, s, UNKEPT), 1);
+            s = Script.of("tell 1", "tell 2").then("check " + n, n.equals("0") || n.equals("31") ? BAD : NO).then("count 7", 0);
+            due("behind check " + n + " of nobody all is as it was", same(new Script(), s, NEW), 1);
+        }
     }
 
     /** "Of several the one that stands first with it". */
@@ -466,6 +511,12 @@ public final class RefusedTest {
             Script s = rich();
             s.call(call);
             due("behind " + call + " all is as it was", same(rich(), s, RICH), 1);
+        }
+        String[] ofTen = {"settles", "won 60 1", "best 1 0", "best 0 1", "behind 100 2", "deal 10", "minds 1"};
+        for (String call : ofTen) {
+            Script s = filled();
+            s.call(call);
+            due("behind " + call + " of ten all is as it was", same(filled(), s, FILLED), 1);
         }
         String[] ofNobody = {"together", "best 0 0", "best 1 1", "won 1 0", "settles", "behind 9 3", "why 1"};
         for (String call : ofNobody) {
