@@ -343,7 +343,8 @@ public final class RefusedTest {
         Script s = made(state).go("trim 0", "tape " + tape);
         due(state + ": text " + tape, s.call("text"), want);
         due(state + ": text " + tape + " leaves no bytes", s.call("count 8"), 0);
-        due(state + ": behind text " + tape + " all else is as it was", same(made(state).go("trim 0"), s, state), 1);
+        s.go("tape fee 5");
+        due(state + ": behind text " + tape + " all else is as it was", same(made(state).go("trim 0", "tape fee 5"), s, state), 1);
     }
 
     private static void sheets() {
