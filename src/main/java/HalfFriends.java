@@ -1086,7 +1086,7 @@ public final class HalfFriends {
         private static final String DUES_NAMES = "ofm", FEE_NAMES = "cy", FINE_NAMES = "op";
         // The signs that join two sides, the loosest level first; what binds closest is a piece.
         private static final String OR = "|", AND = "&", TEST = "<=>", SUM = "+-", TERM = "*/";
-        private static final int LOOSEST = 0, TEST_LEVEL = 2, PIECE_LEVEL = 5;
+        private static final int LOOSEST = 0, TEST_LEVEL = 2, CLOSEST = 4;
         private static final int NO_BYTE = 0, SIGN = 1, LETTER = 2, DIGIT = 3;
 
         private final int[] tape = new int[MOST_BYTES];
@@ -1188,16 +1188,13 @@ public final class HalfFriends {
         }
 
         private boolean level(int level, int parens, int nots) {
-            if (level >= PIECE_LEVEL) {
-                return piece(parens, nots);
-            }
-            if (!level(level + 1, parens, nots)) {
+            if (!side(level, parens, nots)) {
                 return false;
             }
             for (int sides = 0; sides < MOST_BYTES && joinsHere(level); sides++) {
                 int sign = tape[start];
                 next();
-                if (!level(level + 1, parens, nots)) {
+                if (!side(level, parens, nots)) {
                     return false;
                 }
                 put(-sign);
@@ -1206,6 +1203,11 @@ public final class HalfFriends {
                 }
             }
             return true;
+        }
+
+        /** What stands on either side of a sign of this level: all that binds closer. */
+        private boolean side(int level, int parens, int nots) {
+            return level < CLOSEST ? level(level + 1, parens, nots) : piece(parens, nots);
         }
 
         private boolean piece(int parens, int nots) {
